@@ -801,14 +801,19 @@ public final class TallTales {
                 && house.tallWhenTold(x, told[x]) > numbers[q];
         }
 
+        void keep(int won) {
+            if (won <= most) return;
+            most = won;
+            System.arraycopy(row, 0, first, 0, LONGEST_WINTER);
+        }
+
         /** Rows come in their order, so one that wins no more nights than an earlier one is no better. */
         private static void search(Winter w, int q, int won) {
-            if (won + w.ahead[q] <= w.most) return;
             if (q >= w.length) {
-                w.most = won;
-                System.arraycopy(w.row, 0, w.first, 0, LONGEST_WINTER);
+                w.keep(won);
                 return;
             }
+            if (won + w.ahead[q] <= w.most) return;
             for (int x = 0; x < w.house.tales; x++) {
                 if (!w.wins(x, q)) continue;
                 int before = w.last[x];
