@@ -1,18 +1,13 @@
-import java.io.IOException;
 import java.lang.management.ManagementFactory;
 import java.lang.reflect.Constructor;
 import java.lang.reflect.Field;
 import java.lang.reflect.Method;
 import java.lang.reflect.Modifier;
-import java.nio.file.Files;
-import java.nio.file.Path;
 import java.util.ArrayList;
 import java.util.Collections;
 import java.util.List;
-import java.util.regex.Matcher;
-import java.util.regex.Pattern;
 
-/** The public face, what LANGUAGE.md leaves of Java, and that no call makes an object. */
+/** The public face, and that no call makes an object. What LANGUAGE.md asks of the source is in LanguageTest. */
 public final class FormTest {
     private static final String[] FACE = {
         "inn(int,int,int,int)int", "ofTale(int,int)int", "memory(int)int", "choose(int,int)int", "night()int",
@@ -25,13 +20,9 @@ public final class FormTest {
     /** i3;t050;g110;w202;t099 */
     private static final int[] TEXT = {
         'i', '3', ';', 't', '0', '5', '0', ';', 'g', '1', '1', '0', ';', 'w', '2', '0', '2', ';', 't', '0', '9', '9'};
-    private static final int MOST_PARAMETERS = 7, MOST_LINES = 60, MOST_CLASSES = 12, MOST_FIELDS = 20;
 
-    public static void main(String[] args) throws IOException {
+    public static void main(String[] args) {
         face();
-        classes();
-        words();
-        lengths();
         objects();
         Check.end("FormTest");
     }
@@ -57,8 +48,8 @@ public final class FormTest {
         for (Field field : TallTales.class.getDeclaredFields()) {
             if (Modifier.isPrivate(field.getModifiers())) continue;
             Check.holds(field + " is a constant of the face", names.remove(field.getName()));
-            int due1 = Modifier.PUBLIC | Modifier.STATIC | Modifier.FINAL;
-            Check.holds(field + " is public static final", field.getModifiers() == due1);
+            int modifiers = Modifier.PUBLIC | Modifier.STATIC | Modifier.FINAL;
+            Check.holds(field + " is public static final", field.getModifiers() == modifiers);
         }
         Check.holds("all constants are there: " + names, names.isEmpty());
         Constructor<?>[] all = TallTales.class.getDeclaredConstructors();
@@ -71,79 +62,6 @@ public final class FormTest {
         Check.due("FULL", TallTales.FULL, -4);
         Check.due("NONE", TallTales.NONE, -9);
         Check.due("LOST", TallTales.LOST, Long.MIN_VALUE);
-    }
-
-    private static void classes() {
-        Class<?>[] inside = TallTales.class.getDeclaredClasses();
-        Check.holds("some twelve classes", inside.length < MOST_CLASSES);
-        classes(TallTales.class);
-        List<String> names = new ArrayList<>();
-        for (String method : FACE) names.add(method.substring(0, method.indexOf('(')));
-        for (Class<?> c : inside) {
-            Check.holds(c + " is static", Modifier.isStatic(c.getModifiers()));
-            Check.holds(c + " is not public", !Modifier.isPublic(c.getModifiers()));
-            classes(c);
-            for (Method method : c.getDeclaredMethods()) {
-                Check.holds(method + " has a name of its own", !names.contains(method.getName()));
-            }
-        }
-        for (Method method : TallTales.class.getDeclaredMethods()) {
-            boolean isOwn = Modifier.isPrivate(method.getModifiers());
-            Check.holds(method + " has a name of its own", !isOwn || !names.contains(method.getName()));
-        }
-    }
-
-    private static void classes(Class<?> c) {
-        int fields = 0;
-        for (Field field : c.getDeclaredFields()) {
-            boolean isConstant = Modifier.isStatic(field.getModifiers());
-            Check.holds(field + ": static ones are final", !isConstant || Modifier.isFinal(field.getModifiers()));
-            if (!isConstant) fields++;
-        }
-        Check.holds(c + " has some twenty fields: " + fields, fields <= MOST_FIELDS);
-        for (Method method : c.getDeclaredMethods()) {
-            Check.holds(method + " takes at most seven", method.getParameterCount() <= MOST_PARAMETERS);
-            Check.holds(method + " is no lambda's", !method.isSynthetic());
-        }
-    }
-
-    private static String source() throws IOException {
-        return Files.readString(Path.of("src", "main", "java", "TallTales.java"));
-    }
-
-    private static void words() throws IOException {
-        String code = source();
-        for (int i = 0; i < code.length(); i++) {
-            char sign = code.charAt(i);
-            if (sign != '\n' && (sign < 32 || sign > 126)) Check.holds("the sign " + (int) sign + " is none to be used", false);
-        }
-        String bare = code.replaceAll("(?s)/\\*.*?\\*/", "").replaceAll("//[^\n]*", "").replaceAll("'.'", "0");
-        String[] none = {
-            "\\b(throw|throws|try|catch|finally|synchronized|assert|volatile|native|transient|goto|package|var|yield)\\b",
-            "->", "::", "@", "\"", "\\b(equals|hashCode|toString|System\\.(?!arraycopy))\\b", "\\w+Exact\\b",
-            "\\b(Random|Thread|Object|Class|Runtime|Exception|Error)\\b", "\\bstatic\\s*\\{", "\\bwhile\\s*\\(true\\)"};
-        for (String pattern : none) {
-            Matcher matcher = Pattern.compile(pattern).matcher(bare);
-            Check.holds("no " + pattern, !matcher.find());
-        }
-        Matcher imports = Pattern.compile("import ([^;]*);").matcher(bare);
-        while (imports.find()) {
-            Check.holds(imports.group(1), imports.group(1).matches("java\\.util\\.(Arrays|ArrayList|List|Iterator)"));
-        }
-        Matcher arrays = Pattern.compile("Arrays\\.(\\w+)").matcher(bare);
-        while (arrays.find()) Check.holds(arrays.group(), arrays.group(1).matches("copyOf|copyOfRange|fill|_"));
-    }
-
-    /** By the source's own form: a method begins and ends in the column of its class's members. */
-    private static void lengths() throws IOException {
-        String[] lines = source().split("\n");
-        for (int begin = 0; begin < lines.length; begin++) {
-            Matcher head = Pattern.compile("( {4}| {8})\\w.*\\) \\{").matcher(lines[begin]);
-            if (!head.matches()) continue;
-            int end = begin;
-            while (end < lines.length && !lines[end].equals(head.group(1) + "}")) end++;
-            Check.holds("lines of " + lines[begin].trim(), end - begin < MOST_LINES);
-        }
     }
 
     /** All calls of a run live in one room: what is needed is made with the object, nothing by its calls. */
