@@ -3,7 +3,11 @@ import java.io.IOException;
 import java.nio.file.Files;
 import java.nio.file.Path;
 import java.util.ArrayList;
+import java.util.Arrays;
+import java.util.Collection;
+import java.util.LinkedHashSet;
 import java.util.List;
+import java.util.Set;
 import java.util.concurrent.ConcurrentLinkedQueue;
 import java.util.concurrent.TimeUnit;
 import java.util.regex.Matcher;
@@ -12,7 +16,8 @@ import javax.tools.ToolProvider;
 
 /**
  * Breaks the program in one spot at a time and tells the breaks that none of the named tests notices.
- * java tools/Mutants.java TEST.. , from the project's own folder; it takes some minutes.
+ * java tools/Mutants.java TEST.. , from the project's own folder; it takes some minutes. Ahead of the tests there may be
+ * lines, as 100-200: then these alone are broken.
  */
 public final class Mutants {
     private static final Path SOURCE = Path.of("src", "main", "java", "TallTales.java");
@@ -25,6 +30,12 @@ public final class Mutants {
         {"--", "++"}, {" += ", " -= "}, {" -= ", " += "}, {"|= ", "= "}, {"true", "false"}, {"false", "true"},
         {"continue;", "break;"}, {"(!", "("}, {" !", " "}, {"Math.max(", "Math.min("}, {"(byte) ", ""}, {"(short) ", ""}};
 
+    /** Names of which one may stand where another one is due. */
+    private static final String[][] ALIKE = {
+        {"UNKNOWN", "OUTSIDE", "STATE", "FULL", "NONE"}, {"NULL", "CAST", "INDEX", "SIZE"}, {"PLAIN", "GROWN", "TRUE"},
+        {"BYTES", "SHORTS", "INTS"}, {"kinds", "owners", "heights", "told", "last"}, {"nightTale", "nightPlace", "nightTall"},
+        {"tellAsTale", "tellAsGrown", "tellAsTrue"}, {"guests", "tales", "nights", "memory"}};
+
     /** One line becomes another one; where it is exchanged with the next one, that is gone. */
     private record Mutant(int line, String was, String is, boolean isNextGone) {
         Mutant(int line, String was, String is) {
@@ -35,11 +46,15 @@ public final class Mutants {
     private Mutants() {
     }
 
-    public static void main(String[] tests) throws Exception {
+    public static void main(String[] args) throws Exception {
         Files.createDirectories(WORK);
         String[] lines = Files.readString(SOURCE).split("\n");
         compileTests();
         ConcurrentLinkedQueue<Mutant> left = new ConcurrentLinkedQueue<>(all(lines));
+        boolean isInPart = args[0].matches("\\d+-\\d+");
+        String[] part = isInPart ? args[0].split("-") : new String[] {"1", String.valueOf(lines.length)};
+        left.removeIf(m -> m.line + 1 < Integer.parseInt(part[0]) || m.line + 1 > Integer.parseInt(part[1]));
+        String[] tests = isInPart ? Arrays.copyOfRange(args, 1, args.length) : args;
         System.out.println(left.size() + " breaks");
         List<Thread> workers = new ArrayList<>();
         for (int n = 0; n < Runtime.getRuntime().availableProcessors(); n++) {
@@ -66,10 +81,17 @@ public final class Mutants {
 
     private static List<Mutant> all(String[] lines) {
         List<Mutant> all = new ArrayList<>();
+        Set<String> counters = new LinkedHashSet<>();
         for (int n = 0; n < lines.length; n++) {
             String code = lines[n];
             String bare = code.trim();
             if (bare.isEmpty() || bare.startsWith("*") || bare.startsWith("/") || bare.startsWith("import")) continue;
+            if (bare.endsWith(") {") && !bare.matches("(if|for|switch|while)\\b.*")) counters.clear();
+            addAlike(all, n, code, counters);
+            Matcher made = Pattern.compile("\\bint (\\w+)\\b(?!\\()").matcher(code);
+            while (made.find()) counters.add(made.group(1));
+            boolean isConstant = bare.contains("static final");
+            for (String[] alike : ALIKE) if (!isConstant) addAlike(all, n, code, List.of(alike));
             for (String[] swap : SWAPS) {
                 for (int at = code.indexOf(swap[0]); at >= 0; at = code.indexOf(swap[0], at + 1)) {
                     all.add(new Mutant(n, code, code.substring(0, at) + swap[1] + code.substring(at + swap[0].length())));
@@ -88,6 +110,19 @@ public final class Mutants {
             all.add(new Mutant(n, code, lines[n + 1] + " " + bare, true));
         }
         return all;
+    }
+
+    /** Each name that stands in the line becomes each other one of those alike. */
+    private static void addAlike(List<Mutant> all, int n, String code, Collection<String> alike) {
+        for (String name : alike) {
+            Matcher spots = Pattern.compile("\\b" + name + "\\b").matcher(code);
+            while (spots.find()) {
+                for (String other : alike) {
+                    if (other.equals(name)) continue;
+                    all.add(new Mutant(n, code, code.substring(0, spots.start()) + other + code.substring(spots.end())));
+                }
+            }
+        }
     }
 
     private static boolean isRefusal(String bare) {

@@ -82,7 +82,7 @@ public final class LanguageTest {
         JavaCompiler compiler = ToolProvider.getSystemJavaCompiler();
         StandardJavaFileManager files = compiler.getStandardFileManager(null, null, null);
         JavacTask task = (JavacTask) compiler.getTask(
-            null, files, null, List.of("-proc:none", "--release", "17"), null, files.getJavaFileObjects(file.toFile()));
+            null, files, null, List.of("-proc:none"), null, files.getJavaFileObjects(file.toFile()));
         unit = task.parse().iterator().next();
         task.analyze();
         trees = Trees.instance(task);

@@ -131,6 +131,15 @@ public final class TellBoundsTest {
                 Seen.leavesAll(call, Ways::lived, t -> t.as(of, as), isOne ? 1 : -12, isOne ? 0 : 2);
             }
         }
+        // by its kind, whosever it is and however tall
+        TallTales t = Check.inn("i5;t402;g301;w003;t001;w401;g002");
+        int[] kinds = {0, 1, 2, 0, 2, 1};
+        for (int x = 0; x < 6; x++) {
+            for (int kind = 0; kind < 3; kind++) {
+                boolean isOne = kind <= kinds[x];
+                Check.due("25 " + x + " as " + kind, t, t.as(x, kind), isOne ? 1 : -12, isOne ? 0 : 2);
+            }
+        }
     }
 
     // "(an int that wraps, 0 at first, becomes 31 times it and the number)"

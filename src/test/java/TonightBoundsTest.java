@@ -220,6 +220,17 @@ public final class TonightBoundsTest {
         answer(t, 1, 3, 1);
         // none reaches the bed, one the bench
         answer(t, 2, 6, 1);
+        // a better PLACE is better, however less TALL one that comes behind it is
+        TallTales down = Check.inn("i3;t051;t050;t049;t150;t251;t250;t249");
+        down.choose(1, 3);
+        answer(down, 0, 1, 0);
+        answer(down, 2, 4, 0);
+        borrowed(down, 0, 5, 0);
+        borrowed(down, 2, 0, 0);
+        down.choose(2, 4);
+        answer(down, 0, 0, 0);
+        answer(down, 1, 3, 1);
+        borrowed(down, 1, 0, 0);
     }
 
     // "BORROWED: likewise of all TALES of others that MAY be told and are not CHOSEN."

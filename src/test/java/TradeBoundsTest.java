@@ -314,6 +314,24 @@ public final class TradeBoundsTest {
         told(t, 1, row(1, 0), NONE_DOES, 2 | 4 | 8);
         told(t, 2, row(0, 1), 1, 2 | 4 | 8 | NONE_DOES);
         told(t, 3, row(0, 1), 1, NONE_DOES);
+        // told in 1 and 3 alone: 50 TALL in 5 and 6, just as TALL as tale 0 and TALLER than tale 1
+        TallTales late = Check.inn("i2;t050;t049;g130");
+        late.memory(0);
+        for (int n = 0; n < 5; n++) Check.night(late, NONE, n % 2 == 1 ? 2 : NONE);
+        Check.night(late, 0, NONE);
+        Check.night(late, 1, NONE);
+        told(late, 5, row(0, 1), 1 | 2 | NONE_DOES, 4 | NONE_DOES);
+        told(late, 5, row(1, 0), 0, 0);
+        told(late, 6, row(0, 1), 1 | 2 | NONE_DOES, NONE_DOES);
+        told(late, 6, row(1, 0), 0, 4);
+        Check.due("17 it may be told", late.choose(1, 2), NONE);
+        Check.night(late, NONE, 2);
+        Check.night(late, 0, NONE);
+        // what came behind a night is no matter in it, what is undone is not either
+        told(late, 6, row(1, 0), 0, 4);
+        late.undo(2);
+        told(late, 5, row(0, 1), 1 | 2 | NONE_DOES, 4 | NONE_DOES);
+        told(late, 6, row(1, 0), 0, 4);
         // a TRUE one as TALL as ever, told or not
         TallTales once = Check.inn("i2;w001;t199");
         Check.night(once, 0, 1);

@@ -7,6 +7,7 @@ public final class WinterBoundsTest {
         p15OutsideSort();
         p15Faults();
         p15NotAllCellsAreThere();
+        p15FromCellIOn();
         p15OneToSixNumbers();
         p15EachNight();
         p15ItIsOnlyTold();
@@ -20,6 +21,8 @@ public final class WinterBoundsTest {
         p15True();
         p15NoneCountsAsTen();
         p15TheFirstRow();
+        p15MoreThanAtFirst();
+        p15EachRowAnew();
         p15NoTales();
         p15BehindSixtyNights();
         Check.end("WinterBoundsTest");
@@ -82,6 +85,19 @@ public final class WinterBoundsTest {
         // the last six of sixty, and one beyond
         Seen.leavesAll("15 the last six", Ways::lived, t -> t.winter(2, 2, 2, 54, 6, -1), 1, 0);
         Seen.leavesAll("15 one beyond", Ways::lived, t -> t.winter(2, 2, 2, 55, 6, -1), -13, 3);
+    }
+
+    // "A WINTER of n such cells"
+
+    private static void p15FromCellIOn() {
+        TallTales t = Check.inn("i2;t050;t030");
+        Check.row(t, 0, 1, 60, 40, 20, 70, 10);
+        int[][] rows = {{NONE, 0, 1, NONE, NONE}, {0, 1, NONE, NONE}, {0, NONE, 1}, {NONE, 0}, {0}};
+        for (int i = 0; i < 5; i++) {
+            for (int q = 0; q < 5 - i; q++) {
+                Check.due("15 from " + i + " on, night " + q, t, t.winter(0, 0, 1, i, 5 - i, q), rows[i][q], 0);
+            }
+        }
     }
 
     private static void p15OneToSixNumbers() {
@@ -338,6 +354,47 @@ public final class WinterBoundsTest {
         winter(like, 0, numbers(25, 25, 25), 0, 1, 3);
         winter(like, 0, numbers(25, 40, 25), 0, 1, 3);
         winter(like, 0, numbers(40, 40, 25), 1, NONE, 0);
+    }
+
+    /** What the most needs is not what is won first: nights out of reach, and ones come to by growing alone. */
+    private static void p15MoreThanAtFirst() {
+        for (int g = 0; g < 3; g++) {
+            TallTales t = Check.inn("i3;t050;t030".replace(";t0", ";t" + g));
+            winter(t, g, numbers(99, 10, 40), NONE, 1, 0);
+            winter(t, g, numbers(10, 99, 40), 1, NONE, 0);
+            winter(t, g, numbers(10, 40, 99), 1, 0, NONE);
+            TallTales grown = Check.inn("i3;g010;g020".replace(";g0", ";g" + g));
+            winter(grown, g, numbers(5, 35, 25), 1, NONE, 1);
+            winter(grown, g, numbers(5, 5, 25), 1, 0, 1);
+            winter(grown, g, numbers(5, 5, 25, 15, 35), 1, 0, 1, 0, 1);
+            TallTales few = Check.inn("i3;g020;g030".replace(";g0", ";g" + g));
+            winter(few, g, numbers(15, 65, 35), 1, NONE, 1);
+            winter(few, g, numbers(5, 15, 35), 1, 0, 1);
+            winter(few, (g + 1) % 3, numbers(5, 15, 35), NONE, NONE, NONE);
+        }
+    }
+
+    /** What is told in one row is no matter in another one: when a tale was told the last time is as it was. */
+    private static void p15EachRowAnew() {
+        // told in night 0, TONIGHT 4: 0 MAY be told on each night, and is wanted on the third
+        TallTales t = Check.inn("i2;t050;t060;t020");
+        t.memory(2);
+        Check.night(t, 0, NONE);
+        for (int n = 0; n < 3; n++) t.night();
+        winter(t, 0, numbers(55, 10, 40), 1, 2, 0);
+        // told last night: it MAY be told on the third night at first, and is wanted on the fourth
+        String[] texts = {"i2;t050;t020", "i2;t050;t006;t007;t020", "i2;t101;t101;t050;t020"};
+        int[][] rows = {{NONE, NONE, 1, 0}, {1, 2, 3, 0}, {NONE, NONE, 3, 2}};
+        int[] told = {0, 0, 2};
+        for (int n = 0; n < texts.length; n++) {
+            TallTales late = Check.inn(texts[n]);
+            late.memory(2);
+            Check.night(late, told[n], NONE);
+            int low = n == 1 ? 5 : 99;
+            winter(late, 0, numbers(low, low, 10, 40), rows[n]);
+            winter(late, 0, numbers(99, 99, 40, 99), NONE, NONE, told[n], NONE);
+            winter(late, 0, numbers(99, 40, 99, 99), NONE, NONE, NONE, NONE);
+        }
     }
 
     private static void p15NoTales() {
